@@ -73,7 +73,7 @@ public final class RandomRunsTest {
             Object got = methods.get(name).invoke(of, arguments);
             return got instanceof Boolean ? ((Boolean) got ? 1 : 0) : (Integer) got;
         } catch (InvocationTargetException e) {
-            if (e.getCause() instanceof IndexOutOfBoundsException && name.equals("fallen")) {
+            if (e.getCause().getClass() == IndexOutOfBoundsException.class && name.equals("fallen")) {
                 return THROWS;
             }
             throw new IllegalStateException(name + Arrays.toString(arguments), e);
