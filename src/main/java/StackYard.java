@@ -288,11 +288,11 @@ public final class StackYard {
         if (!isYard(y)) {
             return NONE;
         }
-        grid.read(yards[y]);
+        readBox(y);
         int opened = 0;
         for (int i = 0; i < grid.blocks; i++) {
             int cell = grid.listed[i];
-            if (region.holds(cell) && grid.bareSides(cell) == 0) {
+            if (grid.bareSides(cell) == 0) {
                 yards[y].change(cell, OPEN);
                 opened++;
             }
@@ -304,55 +304,46 @@ public final class StackYard {
         if (!isYard(y) || !isYard(u) || !isShift(told)) {
             return NONE;
         }
-        grid.read(yards[y]);
-        int moved = 0;
+        readBox(y);
         for (int i = 0; i < grid.blocks; i++) {
-            int cell = grid.listed[i];
-            if (region.holds(cell)) {
-                if (yards[u].codeAt(furtherBy(told, cell)) == ABSENT) {
-                    return NONE;
-                }
-                moved++;
+            if (yards[u].codeAt(furtherBy(told, grid.listed[i])) == ABSENT) {
+                return NONE;
             }
         }
-        if (cut) {
-            openBox(yards[y]);
+        for (int i = 0; cut && i < grid.blocks; i++) {
+            yards[y].change(grid.listed[i], OPEN);
         }
         for (int i = 0; i < grid.blocks; i++) {
             int cell = grid.listed[i];
-            if (region.holds(cell)) {
-                yards[u].change(furtherBy(told, cell), grid.code(cell));
-            }
+            yards[u].change(furtherBy(told, cell), grid.code(cell));
         }
-        return moved;
+        return grid.blocks;
     }
 
     public int turnBox(int y, int t) {
         if (!isYard(y) || !Turns.isTurn(t) || !region.goesToItself(t)) {
             return NONE;
         }
-        grid.read(yards[y]);
+        readBox(y);
         for (int cell = 0; cell < CELLS; cell++) {
             if (region.holds(cell) && grid.code(cell) == ABSENT) {
                 return NONE;
             }
         }
-        int turned = 0;
         for (int cell = 0; cell < CELLS; cell++) {
             if (region.holds(cell)) {
                 int code = grid.code(cell);
                 yards[y].change(region.turned(cell, t), codeOf(kindOf(code), Turns.after(t, turnOf(code))));
-                turned += code > OPEN ? 1 : 0;
             }
         }
-        return turned;
+        return grid.blocks;
     }
 
     public int cut(int y, int a, int b, int c, int d) {
         if (!isYard(y)) {
             return NONE;
         }
-        grid.read(yards[y]);
+        readBox(y);
         int opened = 0;
         for (int i = 0; i < grid.blocks; i++) {
             int cell = grid.listed[i];
@@ -360,7 +351,7 @@ public final class StackYard {
             long side = (long) a * (2 * zOf(cell) + 1)
                     + (long) b * (2 * xOf(cell) + 1)
                     + (long) c * (2 * wOf(cell) + 1);
-            if (region.holds(cell) && side > 2L * d) {
+            if (side > 2L * d) {
                 yards[y].change(cell, OPEN);
                 opened++;
             }
@@ -618,6 +609,11 @@ public final class StackYard {
         return found;
     }
 
+    private void readBox(int y) {
+        grid.read(yards[y]);
+        grid.listOnly(region);
+    }
+
     private void findParts(int y) {
         grid.read(yards[y]);
         lumps.find(grid);
@@ -629,14 +625,6 @@ public final class StackYard {
             fallenSteps[fell] = steps;
         }
         fell++;
-    }
-
-    private void openBox(Yard yard) {
-        for (int i = 0; i < grid.blocks; i++) {
-            if (region.holds(grid.listed[i])) {
-                yard.change(grid.listed[i], OPEN);
-            }
-        }
     }
 
     /** The k-th way to put yard u into yard y; for k NONE how many there are. */
@@ -1011,7 +999,7 @@ public final class StackYard {
         }
     }
 
-    /** What stood in a yard when it was read, so that it can be looked at while the yard is changed. */
+    /** What stood in a yard when it was read, and a list of its blocks: the yard may be changed meanwhile. */
     private static final class Grid {
         private final int[] codes = new int[CELLS];
         final int[] listed = new int[CELLS];
@@ -1040,6 +1028,18 @@ public final class StackYard {
                     blocks++;
                 }
             }
+        }
+
+        /** What stands around the box stays readable: only the list becomes shorter. */
+        void listOnly(Box box) {
+            int inside = 0;
+            for (int i = 0; i < blocks; i++) {
+                if (box.holds(listed[i])) {
+                    listed[inside] = listed[i];
+                    inside++;
+                }
+            }
+            blocks = inside;
         }
 
         int code(int cell) {
@@ -1211,11 +1211,13 @@ public final class StackYard {
         final int[] levels = new int[CELLS];
 
         void shine(Grid grid, Kinds kinds) {
+            int brightest = 0;
             for (int cell = 0; cell < CELLS; cell++) {
                 levels[cell] = grid.isBlock(cell) ? kinds.lightOf(kindOf(grid.code(cell))) : 0;
+                brightest = Math.max(brightest, levels[cell]);
             }
             // each cell come to takes one at least: what has a level is final once all greater ones have spread
-            for (int level = MOST_LIGHT; level > 1; level--) {
+            for (int level = brightest; level > 1; level--) {
                 for (int cell = 0; cell < CELLS; cell++) {
                     if (levels[cell] == level) {
                         spread(cell, grid, kinds);
