@@ -563,7 +563,7 @@ public final class StackYard {
     }
 
     private static int along(int axis, int cell) {
-        return cell / strideOf(axis) % SIDE;
+        return axis == 0 ? zOf(cell) : axis == 1 ? xOf(cell) : wOf(cell);
     }
 
     /** An open cell has no turn: all open cells are to be one and the same number. */
@@ -907,7 +907,7 @@ public final class StackYard {
             if (old == ABSENT || old == code) {
                 return false;
             }
-            Row row = ownRow(zOf(cell), xOf(cell));
+            Row row = ownRow(ownLayer(zOf(cell)), xOf(cell));
             if (row == null || wOf(cell) >= row.cells.length) {
                 return false;
             }
@@ -930,10 +930,13 @@ public final class StackYard {
             return anew;
         }
 
-        private Row ownRow(int z, int x) {
-            Layer layer = ownLayer(z);
-            Row row = rowAt(z, x);
-            if (layer == null || row == null || row.holders <= 1) {
+        /** The row at x of a layer of its own, made anew first if other layers hold it too. */
+        private Row ownRow(Layer layer, int x) {
+            if (layer == null || !isPlace(x)) {
+                return null;
+            }
+            Row row = layer.rows[x];
+            if (row == null || row.holders <= 1) {
                 return row;
             }
             Row anew = new Row(row.cells.clone());
