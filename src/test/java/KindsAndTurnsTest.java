@@ -103,9 +103,9 @@ public final class KindsAndTurnsTest {
     }
 
     private static void productsAreAGroup() {
-        StackYard yard = new StackYard();
         Model model = new Model();
         for (int t = 0; t < 24; t++) {
+            StackYard yard = new StackYard();
             CHECK.due("3: product(" + t + ", 0)", yard.product(t, 0), t);
             CHECK.due("3: product(0, " + t + ")", yard.product(0, t), t);
             int seen = 0;

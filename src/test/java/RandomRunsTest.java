@@ -17,6 +17,7 @@ public final class RandomRunsTest {
         "turnBox", "turnBox", "turnBox", "cut", "parts", "part", "partOf", "partOf", "partOf",
         "settle", "settle", "fallen", "fallen", "load", "overloaded", "light", "light", "dark", "faces",
         "path", "path", "path", "places", "place", "place", "differs",
+        "pattern", "pattern", "solid", "grate",
     };
 
     private final Check check;
@@ -107,7 +108,8 @@ public final class RandomRunsTest {
             int[] off = {-1, 181818, 181819, 181918, 191818, 1909, Integer.MAX_VALUE, Integer.MIN_VALUE};
             return off[below(off.length)];
         }
-        return Build.shift(below(3) - 1, below(3) - 1, below(3) - 1);
+        int far = oneIn(3) ? side : 2;
+        return Build.shift(below(2 * far - 1) - far + 1, below(2 * far - 1) - far + 1, below(2 * far - 1) - far + 1);
     }
 
     private int boxTold() {
@@ -212,6 +214,9 @@ public final class RandomRunsTest {
             case "path": path(y); break;
             case "places": case "differs": ask(name, y, u); break;
             case "place": ask(name, y, u, of(0, 3)); break;
+            case "pattern": pattern(y, of(1, 3)); break;
+            case "solid": solid(y); break;
+            case "grate": grate(y); break;
             default: throw new IllegalStateException(name);
         }
     }
@@ -229,6 +234,55 @@ public final class RandomRunsTest {
         } else if (oneIn(2)) {
             ask("cut", y, of(-5, 5), of(-5, 5), of(-5, 5), of(-5, 5 * side));
         }
+    }
+
+    /** A few blocks of a yard as they stand, alone in another one, are looked for. */
+    private void pattern(int y, int u) {
+        if (u == y || !oneIn(4)) {
+            return;
+        }
+        ask("share", y, u);
+        ask("box", Build.box(0, 9, 0, 9, 0, 9));
+        ask("fill", u, 0, 0);
+        int z = below(side);
+        int x = below(side);
+        int w = below(side);
+        ask("box", Build.box(z, Math.min(9, z + below(2)), x, Math.min(9, x + below(2)), w, Math.min(9, w + below(2))));
+        ask("move", y, u, oneIn(2) ? Build.shift(0, 0, 0) : shift(), 0);
+        ask("places", y, u);
+        for (int n = below(4); n >= 0; n--) {
+            ask("place", y, u, of(0, Math.max(0, model.places(y, u))));
+        }
+    }
+
+    private void solid(int y) {
+        ask("fill", y, someKind(1), of(0, 23));
+        if (oneIn(2)) {
+            ask("put", y, place(), place(), place(), someKind(0));
+        }
+        ask("hollow", y);
+    }
+
+    /** Of what stands in every second place along each axis no part hangs together with another one. */
+    private void grate(int y) {
+        if (!oneIn(3)) {
+            return;
+        }
+        ask("box", Build.box(0, 9, 0, 9, 0, 9));
+        ask("fill", y, someKind(1), of(0, 23));
+        for (int odd = 1; odd < side; odd += 2) {
+            ask("box", Build.box(odd, odd, 0, 9, 0, 9));
+            ask("fill", y, 0, 0);
+            ask("box", Build.box(0, 9, odd, odd, 0, 9));
+            ask("fill", y, 0, 0);
+            ask("box", Build.box(0, 9, 0, 9, odd, odd));
+            ask("fill", y, 0, 0);
+        }
+        ask("box", Build.box(0, 9, 0, 9, 0, 9));
+        ask("parts", y);
+        ask("settle", y);
+        ask("fallen", below(125), below(2));
+        ask("fallen", 59 + below(2), below(2));
     }
 
     /** Between cells that are open, so that there are ways at all. */

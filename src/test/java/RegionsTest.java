@@ -31,8 +31,8 @@ public final class RegionsTest {
     }
 
     private static void boxes() {
-        StackYard yard = all();
         for (int axis = 0; axis < 3; axis++) {
+            StackYard yard = all();
             for (int least = 0; least < 10; least++) {
                 for (int most = 0; most < 10; most++) {
                     int[] b = {0, 9, 0, 9, 0, 9};
@@ -46,6 +46,7 @@ public final class RegionsTest {
                 }
             }
         }
+        StackYard yard = all();
         yard.put(0, 1, 4, 7, 1);
         yard.put(0, 3, 5, 8, 1);
         yard.put(0, 3, 5, 9, 1);
@@ -339,15 +340,14 @@ public final class RegionsTest {
     }
 
     private static void turnsOneAfterTheOther() {
-        StackYard yard = Build.plain(3, 3, 3);
-        Build.open(yard, 1, 3, 3, 3);
-        yard.box(Build.box(0, 2, 0, 2, 0, 2));
-        yard.put(0, 0, 0, 1, 1);
-        yard.put(0, 0, 1, 2, 1);
-        yard.face(0, 0, 1, 2, 11);
-        yard.put(0, 0, 0, 0, 1);
-        yard.keep(0, 0);
-        for (int s = 0; s < 24; s += 5) {
+        for (int s = 0; s < 24; s++) {
+            StackYard yard = Build.plain(3, 3, 3);
+            yard.box(Build.box(0, 2, 0, 2, 0, 2));
+            yard.put(0, 0, 0, 1, 1);
+            yard.put(0, 0, 1, 2, 1);
+            yard.face(0, 0, 1, 2, 11);
+            yard.put(0, 0, 0, 0, 1);
+            yard.keep(0, 0);
             for (int t = 0; t < 24; t++) {
                 yard.back(0, 0);
                 yard.back(0, 1);

